@@ -468,6 +468,15 @@ public final class PromisesTest {
         due("15: sight", w.way(0, 2, 5, 0, 3), 25);
         due("15: one", w.way(0, 2, 5, 1, 3), 121);
         due("15: two", w.way(0, 2, 5, 2, 3), 225);
+        // Six walls at x = 0 and six at x = 10: by sight, by each, by each and each of the other side.
+        StringBuilder many = new StringBuilder("sender 4 5 0 9999;");
+        for (int k = 0; k < 6; k++) {
+            many.append("wall 0 0 0 9 0;wall 10 0 10 9 0;");
+        }
+        w = told(many.toString());
+        w.set(0, 2);
+        due("15: by all twelve walls", w.ways(0, 6, 5), 1 + 12 + 72);
+        due("15: the last one", w.way(0, 6, 5, 84, 1) * 100 + w.way(0, 6, 5, 84, 2), 1110);
         w = told("sender 2 2 0 1;wall 5 0 5 4 0;wall 5 0 5 4 0;");
         due("15: walls in one place are two", w.ways(0, 2, 3), 3);
     }
@@ -476,6 +485,8 @@ public final class PromisesTest {
     private static void way() {
         StreetWaves w = told("sender 2 9 0 100;wall 5 0 5 10 0;wall 5 10 9 10 0;");
         due("16: BEND is 0 at first", w.ways(0, 8, 9), 1);
+        w.set(1, 1);
+        due("16: with the least BEND", w.ways(0, 8, 9), 3);
         w.set(1, 40);
         due("16: ways", w.ways(0, 8, 9), 3);
         int[][] due = {{1, 1, -1, 40, 0, 1250, 632}, {3, 0, 1, 10, 10, 1000, 632}, {3, 0, 0, 90, 90, 110, 1896}};
@@ -589,6 +600,17 @@ public final class PromisesTest {
         due("17: sums of roots", w.compare(0, 0, 1, 0, 5, 10), 1);
         due("17: sums of roots", w.compare(1, 0, 0, 0, 5, 10), -1);
         due("17: sums of roots", w.compare(1, 1, 0, 0, 5, 10), 0);
+        // 3 + 7, twice root 26 = 10.198, root 2 + root 82 = 10.469, twice root 41 = 12.8, root 34 + root 74 = 14.4.
+        w = told("sender 0 5 0 9;wall 3 0 3 5 0;wall 1 6 1 9 0;wall 5 6 5 9 0;");
+        w.set(1, 100);
+        int[] firstLegs = {9, 26, 2, 41, 34};
+        due("17: ways", w.ways(0, 10, 5), firstLegs.length);
+        for (int k = 0; k < firstLegs.length; k++) {
+            due("17: in order " + k, w.way(0, 10, 5, k, 3), firstLegs[k]);
+            for (int i = 0; i < firstLegs.length; i++) {
+                due("17: compare " + k + " " + i, w.compare(0, k, 0, i, 10, 5), Integer.compare(k, i));
+            }
+        }
     }
 
     // 18
@@ -687,6 +709,17 @@ public final class PromisesTest {
         for (int second = 0; second < due.length; second++) {
             due("23: wishes one behind the other, " + second, w.served(second), due[second]);
         }
+        // Another one serves: its wishes are none, though a third one is better at once.
+        w = told("sender 0 0 0 100;sender 10 0 1 100;sender 20 0 2 100;");
+        w.set(6, 2);
+        int[] far = {0, 10, 10, 20, 20};
+        int[] farDue = {0, 0, 1, 1, 2};
+        for (int x : far) {
+            w.step(x, 0);
+        }
+        for (int second = 0; second < farDue.length; second++) {
+            due("23: new wishes, " + second, w.served(second), farDue[second]);
+        }
         // Who serves is not heard any more: the best at once, whatever HOLD.
         w = told("sender 0 0 0 100;sender 10 0 1 100;sender 9 0 0 100;wall 20 20 20 19 0;");
         w.set(6, 9);
@@ -715,6 +748,12 @@ public final class PromisesTest {
         due("24: seconds", w.walk(0), 8);
         due("24: changes", w.walk(1), 1);
         due("24: lost ones", w.walk(2), 3);
+        w.unwalk();
+        w.step(0, 0);
+        w.step(10, 0);
+        due("24: changes, asked first", w.walk(1), 1);
+        w.step(5, 0);
+        due("24: lost ones, asked first", w.walk(2), 1);
         due("24: another what", w.walk(3), -1);
         due("24: another what", w.walk(-1), -1);
     }
@@ -761,6 +800,25 @@ public final class PromisesTest {
         due("26: by the walls of the view", w.serves(0, 0), 4000);
         w.view(0);
         due("26: by the walls of the view", w.serves(0, 0), 5000);
+        // A site is as strong as a sender in its place; what was asked of senders does not mix with it.
+        w = told("sender 0 0 0 1;sender 0 0 0 1;sender 0 0 0 1;sender 0 0 0 1;sender 0 0 0 1;sender 0 0 0 900;"
+                + "need 0 1;need 0 2;need 0 3;need 0 4;need 0 5;need 0 6;need 0 7;need 0 8;");
+        Checks.town(w, "site 0 0 1 1;site 0 0 2 1;site 0 0 3 1;site 0 0 4 1;site 0 0 5 1;site 0 0 6 1;site 0 0 7 1;site 0 0 8 1;");
+        w.places();
+        w.span(5, 0, 1000000000);
+        w.places();
+        for (int site = 0; site < 8; site++) {
+            for (int need = 0; need < 8; need++) {
+                due("26: serves " + site + " " + need, w.serves(site, need), (site + 1) * 1000 / (need + 1) / (need + 1));
+            }
+        }
+        for (int y = 1; y <= 20; y++) {
+            due("26: the sender still", w.signal(5, 0, y), 900000 / y / y);
+        }
+        w = told("sender 0 0 0 1;site 0 0 2 1;need 0 3;");
+        due("26: a way", w.way(0, 0, 2, 0, 3), 4);
+        w.serves(0, 0);
+        due("26: still the way", w.way(0, 0, 2, 0, 3), 4);
     }
 
     // 27
@@ -797,6 +855,13 @@ public final class PromisesTest {
         due("28: pulled down", w.colour(3), -1);
         due("28: 1 is free", w.colour(1), 0);
         due("28: 2 is not", w.colour(2), 1);
+        w = told("sender 0 0 0 5;sender 12 0 0 5;sender 4 0 0 5;sender 8 0 0 5;need 2 0;need 10 0;need 6 0;");
+        w.set(4, 1000);
+        w.pull(false, 0);
+        int[] rest = {-1, 0, 0, 1};
+        for (int k = 0; k < rest.length; k++) {
+            due("28: without the first, " + k, w.colour(k), rest[k]);
+        }
         w = told("need 5 5;sender 5 5 0 9;sender 5 5 0 9;sender 5 5 0 9;sender 5 5 0 9;sender 5 5 0 9;sender 5 5 0 9;");
         for (int k = 0; k < 6; k++) {
             due("28: all clash", w.colour(k), k);
@@ -881,7 +946,8 @@ public final class PromisesTest {
         due("32: no such e", w.echo(1, 5, 5, MOST_INT, 0), -1);
         due("32: none such", w.echo(2, 5, 5, 16, 0), -1);
         due("32: none such", w.echo(-1, 5, 5, 16, 0), -1);
-        due("32: none such", w.echo(1, 21, 5, 16, 0), -1);
+        due("32: none such", w.echo(1, 21, 5, 18 * 18, 0), -1);
+        due("32: within", w.echo(1, 20, 5, 17 * 17, 0), 4);
         w.pull(false, 1);
         due("32: pulled down", w.echo(1, 5, 5, 16, 0), -1);
     }
@@ -931,6 +997,9 @@ public final class PromisesTest {
         due("34: the next one", w.breach(1), 1);
         Checks.law(w, "if hour>23:bar;");
         due("34: none", w.breach(0), -1);
+        StreetWaves loud = told("need 0 0;sender 0 2 0 4;sender 0 1 0 4;");
+        Checks.law(loud, "if heard>3999:bar;");
+        due("34: by what is heard", loud.breach(1), 1);
         Checks.law(w, "if hour=23:bar;");
         due("34: the last hour", w.breach(0), 23);
         due("34: the first sender", w.breach(1), 0);
