@@ -1,3 +1,5 @@
+import java.math.BigInteger;
+
 /** Promises 1 to 19 of the document: each sentence that names a boundary case. */
 public final class BoundariesTest extends Trial {
     private static final int BLANKS = 0x20202020;
@@ -569,6 +571,10 @@ public final class BoundariesTest extends Trial {
         for (int[] d : due) {
             is(d[2], "way", 0, d[0], d[1], 0, 6);
         }
+        for (int place = 0; place < 21 * 21; place++) {
+            int square = place % 21 * (place % 21) + place / 21 * (place / 21);
+            is(BigInteger.valueOf(10000L * square).sqrt().intValue(), "way", 0, place % 21, place / 21, 0, 6);
+        }
         // Twice 223.6 are 447.2, twice 412.3 are 824.6.
         anew();
         town(2, "sender 2 5 0 9;wall 3 1 3 7 0;");
@@ -679,6 +685,17 @@ public final class BoundariesTest extends Trial {
         is(0, "ways", 0, 3, 2);
         yes("set", 1, 100);
         is(2, "ways", 0, 3, 2);
+        // Nor does what was asked of another place, or of a site, come to the first one.
+        anew();
+        town(3, "sender 0 2 0 4;need 0 9;site 0 1 4 1;");
+        way(0, 0, 0, 0, 0, NONE, NONE, 4);
+        is(160, "signal", 0, 0, 7);
+        way(0, 0, 0, 0, 0, NONE, NONE, 4);
+        is(62, "serves", 0, 0);
+        way(0, 0, 0, 0, 0, NONE, NONE, 4);
+        way(0, 5, 2, 0, 0, NONE, NONE, 25);
+        is(4000, "signal", 0, 1, 2);
+        way(0, 5, 2, 0, 0, NONE, NONE, 25);
     }
 
     private void all(int ways, int signal) {

@@ -213,6 +213,9 @@ public final class TermFiveTest extends Trial {
         badLaw("if alone and:may;", 1, 12);
         badLaw("if alone and and:may;", 1, 13);
         badLaw("if alone alone:may;", 1, 9);
+        badLaw("if x and:may;", 1, 5);
+        badLaw("if and alone:may;", 1, 3);
+        badLaw("if x= and y=1:may;", 1, 6);
         badLaw("if alone:;", 1, 9);
         badLaw("if alone;", 1, 8);
         badLaw("if alone:bar may;", 1, 13);
@@ -485,6 +488,11 @@ public final class TermFiveTest extends Trial {
         is(0, "why", 1, 0);
         law(1, "if heard>9999:bar;");
         is(NONE, "breach", 0);
+        // The first that is asked of it.
+        anew();
+        town(3, "need 0 0;sender 0 2 0 4;sender 0 1 0 4;");
+        law(1, "if heard>3999:bar;");
+        is(1, "breach", 1);
     }
 
     private void breach() {

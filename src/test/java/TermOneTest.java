@@ -386,20 +386,20 @@ public final class TermOneTest extends Trial {
 
     private void least() {
         sentence("LEAST 1 .. 9999 (10 at first)");
-        // 10 and 9 of the site at the needs, 1 of the other one, 9999 of none.
-        town(3, "need 0 10;site 0 0 1 1;site 1 0 1 1;");
-        is(10, "serves", 0, 0);
-        is(9, "serves", 1, 0);
-        is(1, "cover", 2);
+        town(2, "need 0 10;site 1 0 1 1;");
+        is(9, "serves", 0, 0);
+        is(NONE, "cover", 2);
+        town(1, "site 0 0 1 1;");
+        is(10, "serves", 1, 0);
+        is(2, "cover", 2);
         town(1, "need 0 20;");
-        is(2, "serves", 0, 1);
+        is(2, "serves", 1, 1);
         is(NONE, "cover", 0);
         yes("set", 4, 2);
         is(1, "cover", 2);
         yes("set", 4, 1);
         no("set", 4, 0);
         is(1, "cover", 2);
-        town(1, "site 0 15 1 1;");
         yes("set", 4, 9999);
         is(NONE, "cover", 0);
         no("set", 4, 10000);

@@ -104,6 +104,18 @@ public final class TermTwoTest extends Trial {
         is(62, "signal", 0, 4, 0);
         yes("stuff", 3, 50, 0);
         is(0, "ways", 0, 4, 0);
+        // It is barred, too, if there was nothing left of it, or glass stands behind what bars it.
+        String[] walls = {"wall 2 0 2 5 1;wall 3 0 3 5 0;", "wall 2 0 2 5 0;wall 3 0 3 5 1;"};
+        for (String two : walls) {
+            anew();
+            town(3, "sender 0 0 0 1;" + two);
+            yes("stuff", 1, 50, 1);
+            no("sees", 0, 4, 0);
+            is(0, "ways", 0, 4, 0);
+            yes("stuff", 0, 50, 1);
+            yes("sees", 0, 4, 0);
+            is(1, "ways", 0, 4, 0);
+        }
     }
 
     private void eachLegMayBar() {
