@@ -26,6 +26,7 @@ public final class TermFiveTest extends Trial {
         test.mostLines();
         test.mostTests();
         test.lawFaultsByPlace();
+        test.asManyAsTheTapeHas();
         test.hours();
         test.firstLineWhoseTestsAllHold();
         test.withoutALine();
@@ -363,6 +364,18 @@ public final class TermFiveTest extends Trial {
         law(1, "bar;");
         law(NONE, SIXTEEN + "may;");
         is(1, "count", 8);
+    }
+
+    private void asManyAsTheTapeHas() {
+        sentence("FAULT 1 .. the end's; other FAULTS, if there is no FAULT 1 [however many LINES and TESTS there are]");
+        String seventy = "if x=1" + times(69, "and x=1") + ":may";
+        badLaw(seventy + ";", 5, 31);
+        badLaw(seventy, 1, 493);
+        badLaw(seventy + ";#", 1, 494);
+        badLaw(times(125, "may;"), 5, 64);
+        badLaw(times(124, "may;") + "may:", 1, 499);
+        badTown(times(62, "need1 1;"), 4, 64);
+        badTown(times(62, "need1 1;") + "need", 1, 500);
     }
 
     private void hours() {
